@@ -542,7 +542,7 @@ public final class VaultDevices {
         }
 
         int kindOf(int t) {
-            return isBelow(t, size) ? kinds[t] : NONE;
+            return t >= 0 && t < size ? kinds[t] : NONE;
         }
 
         int xOf(int t) {
@@ -566,7 +566,7 @@ public final class VaultDevices {
         int tailOf(int list, int parts) {
             int rest = list;
             for (int i = 0; i < parts; i++) {
-                rest = kindOf(rest) == PAIR ? ys[rest] : NONE;
+                rest = rest >= 0 && rest < size && kinds[rest] == PAIR ? ys[rest] : NONE;
             }
             return rest;
         }
@@ -626,8 +626,9 @@ public final class VaultDevices {
             size = left;
         }
 
+        /** Whoever makes terms must reveal the whole at once, for what is KNOWN of the parts is worked out here. */
         void reveal(int t) {
-            if (isBelow(t, size)) {
+            if (isBelow(t, size) && !open[t]) {
                 open[t] = true;
                 spread();
             }
@@ -681,7 +682,11 @@ public final class VaultDevices {
         /** The number of the sealed state; FULL, and no term made, if there is no room for all of it. */
         int write(Terms terms, State state) {
             int before = terms.size;
-            int body = writeState(terms, state);
+            writeHeader(terms, state);
+            for (int d = 0; d < DEVICES; d++) {
+                stateRow[HEADER_PARTS + d] = terms.make(NUMBER, state.vector[d], NONE);
+            }
+            int body = terms.makeList(stateRow, stateRow.length, writeEntries(terms, state));
             int mark = terms.make(MARK, terms.make(ATOM, VAULT, NONE), body);
             int seal = terms.make(PAIR, body, mark);
             if (seal == FULL) {
@@ -690,22 +695,13 @@ public final class VaultDevices {
             return seal;
         }
 
-        private int writeState(Terms terms, State state) {
+        private void writeHeader(Terms terms, State state) {
             stateRow[0] = terms.make(NUMBER, state.generation, NONE);
             stateRow[1] = terms.make(NUMBER, state.owner, NONE);
-            stateRow[2] = writeHeaderBox(terms, state.password);
-            for (int d = 0; d < DEVICES; d++) {
-                stateRow[HEADER_PARTS + d] = terms.make(NUMBER, state.vector[d], NONE);
-            }
-            int entries = writeEntries(terms, state);
-            return terms.makeList(stateRow, stateRow.length, entries);
-        }
-
-        private static int writeHeaderBox(Terms terms, int password) {
-            int passwordTerm = terms.make(ATOM, password, NONE);
+            int password = terms.make(ATOM, state.password, NONE);
             int secret = terms.make(ATOM, SECRET, NONE);
-            int key = terms.make(KEY, passwordTerm, secret);
-            return terms.make(BOX, key, terms.make(ATOM, VAULT, NONE));
+            int key = terms.make(KEY, password, secret);
+            stateRow[2] = terms.make(BOX, key, terms.make(ATOM, VAULT, NONE));
         }
 
         private int writeEntries(Terms terms, State state) {
