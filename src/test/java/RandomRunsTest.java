@@ -15,7 +15,7 @@ public final class RandomRunsTest {
 
     private RandomRunsTest(long seed, Checks checks) {
         random = new Random(seed);
-        twin = new Twin(checks);
+        twin = new Twin(checks, true);
         attacks = seed % 3 == 0;
         fills = seed % 3 == 1;
     }

@@ -17,6 +17,9 @@ public final class TermsTest {
         test.knownThroughTheKey();
         test.knownOfWhatIsBoxed();
         test.knownBackwards();
+        test.knownByEachPassword();
+        test.knownByOneOfTwoHeaders();
+        test.neverKnown();
         test.term();
         test.atom();
         test.checks.end();
@@ -271,6 +274,57 @@ public final class TermsTest {
         x.leak(0);
         checks.due("the KEY is not KNOWN by its x", x.known(3), false);
         checks.due("nor its y", x.known(2), false);
+    }
+
+    /** The vault key comes out of the header's box by the SECRET and its password, in whichever order they come. */
+    private void knownByEachPassword() {
+        for (int password = 0; password < 8; password++) {
+            checks.about("y of a KNOWN BOX whose x is KNOWN, password " + password);
+            Run run = Edges.open().then("change", 1, password).then("push", 1);
+            int vault = run.answer("atom", 9);
+            checks.due("by nothing", run.answer("known", vault), 0);
+            checks.due("by the password alone", run.then("leak", password).answer("known", vault), 0);
+            Run others = run.then("leak", 8);
+            for (int other = 0; other < 8; other++) {
+                others = other == password ? others : others.then("leak", other);
+            }
+            checks.due("by the SECRET and all other passwords", others.answer("known", vault), 0);
+            checks.due("and this one", others.then("leak", password).answer("known", vault), 1);
+            checks.due("password first", run.then("leak", password).then("leak", 8).answer("known", vault), 1);
+            Run before = Edges.open().then("leak", 8).then("leak", password).then("change", 1, password);
+            checks.due("before it is sent there is none", before.answer("atom", 9), -1);
+            Run stolen = before.then("steal", 1);
+            checks.due("stolen afterwards", stolen.answer("known", stolen.answer("atom", 9)), 1);
+        }
+    }
+
+    private void knownByOneOfTwoHeaders() {
+        checks.about("one header whose password is KNOWN opens the vault for all");
+        Run run = Edges.open().then("push", 0).then("change", 0, 6).then("push", 0).then("leak", 8).then("leak", 0);
+        int vault = run.answer("atom", 9);
+        checks.due("known(vault)", run.answer("known", vault), 1);
+        checks.due("known(the other password)", run.answer("known", run.answer("atom", 6)), 0);
+        checks.due("known(its KEY)", run.answer("known", run.answer("atom", 6) + 1), 0);
+        int mark = run.countTerms();
+        checks.due("a MARK under it can be made", run.answer("build", 5, vault, 0), mark);
+    }
+
+    /** Nobody gives away the keys of items, so contents stay in their boxes whatever else is KNOWN. */
+    private void neverKnown() {
+        checks.about("nothing can be got out of a box without its key");
+        Run run = Edges.open();
+        for (int item = 0; item < 4; item++) {
+            run = run.then("put", 0, item, 20 + item);
+        }
+        run = run.then("push", 0);
+        for (int n = 0; n <= 8; n++) {
+            run = run.then("leak", n);
+        }
+        for (int item = 0; item < 4; item++) {
+            checks.due("known(key of " + item + ")", run.answer("known", run.answer("atom", 10 + item)), 0);
+            checks.due("known(content of " + item + ")", run.answer("known", run.answer("atom", 120 + item)), 0);
+        }
+        checks.due("known(vault)", run.answer("known", run.answer("atom", 9)), 1);
     }
 
     private void term() {
