@@ -27,7 +27,7 @@ public final class RandomRunsTest {
             new RandomRunsTest(seed, checks).run();
         }
         mustHaveSeen(checks, "push FULL", "build FULL", "steal FULL", "put FULL", "erase FULL", "change FULL",
-                "forged taken", "forged refused", "reply too old");
+                "leak FULL", "forged taken", "forged refused", "reply too old", "merge too large");
         System.out.println(SEEN);
         checks.end();
     }
