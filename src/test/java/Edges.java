@@ -25,6 +25,24 @@ final class Edges {
         return run.then("leak", 3).then("lock", 2);
     }
 
+    /**
+     * All three devices have edits side by side, and a BASE; device 0 has changed the password since, device 2 erased
+     * something; somebody knows the password and the SECRET.
+     */
+    static Run synced() {
+        Run run = open();
+        for (int d = 0; d < 3; d++) {
+            run = run.then("put", d, 0, 10 + d).then("put", d, d + 1, 20 + d);
+        }
+        for (int round = 0; round < 2; round++) {
+            for (int d = 0; d < 3; d++) {
+                run = run.then("push", d).then("deliver", 0).then("deliver", 0);
+                run = run.then("push", d).then("deliver", 0).then("deliver", 0);
+            }
+        }
+        return run.then("change", 0, 5).then("erase", 2, 3).then("leak", 0).then("leak", 8);
+    }
+
     /** The device's count is so great, by its own puts. */
     static Run count(int d, int count) {
         Run run = open();
@@ -49,6 +67,16 @@ final class Edges {
             run = run.then("pull", 0);
         }
         return run;
+    }
+
+    /** Behind the run, REPLYs to all devices in turn until so many messages are under way. */
+    static Run replies(Run run, int flight) {
+        Run longer = run;
+        int seal = run.answer("server");
+        for (int i = run.answer("flight"); i < flight; i++) {
+            longer = longer.then("forge", i % 3, seal);
+        }
+        return longer;
     }
 
     /** There are so many terms, the NUMBER 0 as the first; device 1 has made no edit, and nobody has content 1. */

@@ -15,6 +15,7 @@ public final class EditsTest {
         test.objectsAreApart();
         test.unlock();
         test.lock();
+        test.lockKeeps();
         test.put();
         test.putInOrder();
         test.putFull();
@@ -96,6 +97,26 @@ public final class EditsTest {
         checks.due("what it has stays", x.get(0, 1, 0), 9);
         for (int bad : NO_DEVICE) {
             checks.refused("lock(" + bad + ")", ARGUMENT, () -> x.lock(bad));
+        }
+    }
+
+    private void lockKeeps() {
+        checks.about("promise 3, a LOCKED device keeps its state, ACKED and BASE");
+        VaultDevices x = new VaultDevices();
+        x.unlock(0, 0);
+        x.put(0, 1, 9);
+        x.change(0, 4);
+        int seal = x.push(0);
+        x.deliver(0);
+        x.deliver(0);
+        x.lock(0);
+        int[] want = {1, 1, 0, 0, 1, 0, 0, 1, 0, 1, seal};
+        for (int w = 0; w < want.length; w++) {
+            checks.due("device(0, " + w + ") when LOCKED", x.device(0, w), want[w]);
+        }
+        x.unlock(0, 4);
+        for (int w = 1; w < want.length; w++) {
+            checks.due("device(0, " + w + ") when open again", x.device(0, w), want[w]);
         }
     }
 

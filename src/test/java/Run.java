@@ -48,6 +48,17 @@ final class Run {
         return play(new VaultDevices());
     }
 
+    /** The answers that are due, as the model gives them. */
+    int[] dueAnswers() {
+        Model model = new Model();
+        Run[] steps = steps();
+        int[] answers = new int[size];
+        for (int i = 0; i < size; i++) {
+            answers[i] = Calls.on(model, steps[i].name, steps[i].a);
+        }
+        return answers;
+    }
+
     /** The answer of one call more. */
     int answer(String next, int... args) {
         return then(next, args).lastAnswer();
@@ -66,6 +77,15 @@ final class Run {
     }
 
     private int[] play(VaultDevices x) {
+        Run[] steps = steps();
+        int[] answers = new int[size];
+        for (int i = 0; i < size; i++) {
+            answers[i] = Calls.on(x, steps[i].name, steps[i].a);
+        }
+        return answers;
+    }
+
+    private Run[] steps() {
         if (size > MOST_CALLS) {
             throw new AssertionError("a run of " + size + " calls");
         }
@@ -73,11 +93,12 @@ final class Run {
         for (Run step = this; step.before != null; step = step.before) {
             steps[step.size - 1] = step;
         }
-        int[] answers = new int[size];
-        for (int i = 0; i < size; i++) {
-            answers[i] = Calls.on(x, steps[i].name, steps[i].a);
-        }
-        return answers;
+        return steps;
+    }
+
+    /** The call at this place of the run, from 0. */
+    String callAt(int index) {
+        return steps()[index].lastCall();
     }
 
     int countTerms() {
@@ -99,32 +120,46 @@ final class Run {
     List<Integer> sight() {
         if (seen == null) {
             seen = new ArrayList<>();
-            seeMail();
-            for (int d = 0; d < DEVICES; d++) {
-                seeDevice(d);
+            for (Run look : looks()) {
+                int[] answers = look.answers();
+                for (int i = size; i < answers.length; i++) {
+                    seen.add(answers[i]);
+                }
             }
-            int terms = countTerms();
-            seen.add(terms);
-            for (int t = 0; t < terms; t += SLICE) {
-                seeTerms(this, t, Math.min(t + SLICE, terms));
-            }
-            seeDisks(terms);
         }
         return seen;
     }
 
-    private void seeMail() {
+    /** This run with calls behind it that look at what became of it; all of them together see all. */
+    List<Run> looks() {
+        List<Run> looks = new ArrayList<>();
+        looks.add(mail());
+        for (int d = 0; d < DEVICES; d++) {
+            looks.add(device(d));
+        }
+        int terms = countTerms();
+        addTerms(looks, this, 0, terms);
+        Run stolen = this;
+        for (int d = 0; d < DEVICES; d++) {
+            stolen = stolen.then("steal", d);
+        }
+        looks.add(stolen);
+        addTerms(looks, stolen, terms, stolen.countTerms());
+        return looks;
+    }
+
+    private Run mail() {
         Run look = then("flight").then("server");
         for (int m = 0; m <= 12; m++) {
             for (int w = 0; w < 4; w++) {
                 look = look.then("message", m, w);
             }
         }
-        see(look);
+        return look;
     }
 
     /** It is LOCKED at last to see which password fits, for an open device tells none. */
-    private void seeDevice(int d) {
+    private Run device(int d) {
         Run look = this;
         for (int w = 0; w <= 10; w++) {
             look = look.then("device", d, w);
@@ -138,36 +173,20 @@ final class Run {
                 look = look.then("get", d, item, k);
             }
         }
-        see(look);
+        return look;
     }
 
-    private void seeDisks(int terms) {
-        Run stolen = this;
-        for (int d = 0; d < DEVICES; d++) {
-            stolen = stolen.then("steal", d);
-        }
-        see(stolen);
-        int all = stolen.countTerms();
-        for (int t = terms; t < all; t += SLICE) {
-            seeTerms(stolen, t, Math.min(t + SLICE, all));
-        }
-    }
-
-    private void seeTerms(Run from, int first, int end) {
-        Run kinds = from;
-        Run parts = from;
-        for (int t = first; t < end; t++) {
-            kinds = kinds.then("term", t, 0).then("known", t);
-            parts = parts.then("term", t, 1).then("term", t, 2);
-        }
-        see(kinds);
-        see(parts);
-    }
-
-    private void see(Run longer) {
-        int[] answers = longer.answers();
-        for (int i = size; i < answers.length; i++) {
-            seen.add(answers[i]);
+    /** The terms from the first one on, and that there is none behind the last one. */
+    private static void addTerms(List<Run> looks, Run from, int first, int count) {
+        for (int t = first; t <= count; t += SLICE) {
+            Run kinds = from;
+            Run parts = from;
+            for (int i = t; i <= count && i < t + SLICE; i++) {
+                kinds = kinds.then("term", i, 0).then("known", i);
+                parts = parts.then("term", i, 1).then("term", i, 2);
+            }
+            looks.add(kinds);
+            looks.add(parts);
         }
     }
 }

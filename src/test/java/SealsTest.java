@@ -89,8 +89,12 @@ public final class SealsTest extends Forger {
         int vaultAsPassword = x.call("build", 2, atom(9), atom(8));
         int turned = x.call("build", 2, atom(8), atom(0));
         int numberKey = x.call("build", 2, number(0), atom(8));
+        int noSecret = x.call("build", 2, atom(0), atom(0));
+        int vaultAsSecret = x.call("build", 2, atom(0), atom(9));
+        int numberAsSecret = x.call("build", 2, atom(0), number(8));
         int key = x.call("build", 2, atom(0), atom(8));
-        for (int bad : new int[] {secretTwice, vaultAsPassword, turned, numberKey, atom(8), number(0), pair(atom(0), atom(8))}) {
+        for (int bad : new int[] {secretTwice, vaultAsPassword, turned, numberKey, noSecret, vaultAsSecret, numberAsSecret,
+            atom(8), number(0), pair(atom(0), atom(8))}) {
             int box = x.call("build", 3, bad, atom(9));
             taken("a box under term " + bad, sealed(state(1, 1, box, vector(0, 0, 0), entries())), false);
         }
@@ -153,7 +157,10 @@ public final class SealsTest extends Forger {
         taken("a dot with count 0", plain(vector(3, 3, 3), entries(entry(0, 1, 0, box0))), false);
         taken("a dot with count 0 of 0", plain(vector(0, 0, 0), entries(entry(0, 1, 0, box0))), false);
         taken("a dot that it does not know", plain(vector(3, 1, 3), entries(entry(0, 1, 2, box0))), false);
-        taken("a dot of device 3", plain(vector(3, 3, 3), entries(entry(0, 3, 1, box0))), false);
+        for (int device = 3; device <= 13; device++) {
+            taken("a dot of device " + device, plain(vector(13, 13, 13), entries(entry(0, device, 1, box0))), false);
+            taken("a dot of device " + device + " for item 1", plain(vector(13, 13, 13), entries(entry(1, device, 1, box1))), false);
+        }
         taken("a dot that it just knows", plain(vector(0, 2, 0), entries(entry(0, 1, 2, box0))), true);
     }
 

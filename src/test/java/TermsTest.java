@@ -12,6 +12,7 @@ public final class TermsTest {
         test.stealFull();
         test.orderOfAState();
         test.orderOfEntries();
+        test.orderOfHeaderAndVector();
         test.knownOfNothing();
         test.knownOfASeal();
         test.knownThroughTheKey();
@@ -176,6 +177,22 @@ public final class TermsTest {
             {4, 20, 6}, {4, 14, 21}, {4, 6, 22}, {4, 7, 23}, {4, 6, 24}, {4, 5, 25}, {4, 0, 26}, {4, 0, 27}};
         compare(x, want);
         checks.due("the MARK", x.term(29, 0), 5);
+    }
+
+    /** All its numbers differ as far as they can: header 2 1 password 0, vector 0 3 0. */
+    private void orderOfHeaderAndVector() {
+        checks.about("promise 20, generation before device, both before the box, this before the vector");
+        VaultDevices x = new VaultDevices();
+        x.unlock(1, 0);
+        x.change(1, 7);
+        x.change(1, 0);
+        x.put(1, 0, 0);
+        x.put(1, 0, 0);
+        x.erase(1, 0);
+        checks.due("steal(1)", x.steal(1), 16);
+        int[][] want = {{1, 2, -1}, {1, 1, -1}, {0, 0, -1}, {0, 8, -1}, {2, 2, 3}, {0, 9, -1}, {3, 4, 5}, {1, 0, -1},
+            {1, 3, -1}, {4, 7, 7}, {4, 8, 9}, {4, 7, 10}, {4, 6, 11}, {4, 1, 12}, {4, 0, 13}, {5, 5, 14}, {4, 14, 15}};
+        compare(x, want);
     }
 
     private void compare(VaultDevices x, int[][] want) {

@@ -34,45 +34,7 @@ final class Twin {
         }
         run = run.then(name, a);
         int got = Calls.on(program, name, a);
-        checks.due("call " + run.size() + ": " + run.lastCall(), got, onModel(name, a));
+        checks.due("call " + run.size() + ": " + run.lastCall(), got, Calls.on(model, name, a));
         return got;
-    }
-
-    private int onModel(String name, int[] a) {
-        try {
-            return plainly(name, a);
-        } catch (IllegalArgumentException e) {
-            return Calls.BAD_ARGUMENT;
-        } catch (IllegalStateException e) {
-            return Calls.BAD_STATE;
-        }
-    }
-
-    private int plainly(String name, int[] a) {
-        switch (name) {
-            case "unlock": return Calls.bit(model.unlock(a[0], a[1]));
-            case "lock": return Calls.bit(model.lock(a[0]));
-            case "put": return model.put(a[0], a[1], a[2]);
-            case "erase": return model.erase(a[0], a[1]);
-            case "get": return model.get(a[0], a[1], a[2]);
-            case "change": return model.change(a[0], a[1]);
-            case "pull": return Calls.bit(model.pull(a[0]));
-            case "push": return model.push(a[0]);
-            case "deliver": return Calls.bit(model.deliver(a[0]));
-            case "drop": return Calls.bit(model.drop(a[0]));
-            case "message": return model.message(a[0], a[1]);
-            case "flight": return model.flight();
-            case "forge": return Calls.bit(model.forge(a[0], a[1]));
-            case "plant": return Calls.bit(model.plant(a[0]));
-            case "build": return model.build(a[0], a[1], a[2]);
-            case "leak": return model.leak(a[0]);
-            case "steal": return model.steal(a[0]);
-            case "known": return Calls.bit(model.known(a[0]));
-            case "term": return model.term(a[0], a[1]);
-            case "atom": return model.atom(a[0]);
-            case "device": return model.device(a[0], a[1]);
-            case "server": return model.server();
-            default: throw new AssertionError(name);
-        }
     }
 }
