@@ -541,6 +541,7 @@ public final class VaultDevices {
             Arrays.fill(newest, NONE);
         }
 
+        // The bounds are written out here and in tailOf, for whoever reads a state calls these deep inside.
         int kindOf(int t) {
             return t >= 0 && t < size ? kinds[t] : NONE;
         }
